@@ -671,8 +671,8 @@ public final class UnitProver {
             return other.above < 0 ? multiplyBy(-other.below, -other.above) : multiplyBy(other.below, other.above);
         }
 
-        /** Reduced crosswise first, so that only the result's own numbers have to be longs. */
-        private boolean multiplyBy(long up, long down) {
+        /** By up by down in lowest terms; reduced crosswise first, so that only the result's numbers have to be longs. */
+        boolean multiplyBy(long up, long down) {
             long falling = commonDivisor(above, down);
             long rising = commonDivisor(up, below);
             long newAbove = product(above / falling, up / rising);
@@ -700,7 +700,9 @@ public final class UnitProver {
             if (sum == NO || newBelow == NO) {
                 return false;
             }
-            set(sum, newBelow);
+            long common = commonDivisor(sum, newBelow);
+            above = sum / common;
+            below = newBelow / common;
             return true;
         }
 
@@ -1564,7 +1566,7 @@ public final class UnitProver {
                 }
                 boolean forward = x[claim] == unit;
                 told.set(forward ? p[claim] : q[claim], forward ? q[claim] : p[claim]);
-                if (!way.multiply(told)) {
+                if (!way.multiplyBy(told.above, told.below)) {
                     return OVER;
                 }
                 unit = forward ? y[claim] : x[claim];

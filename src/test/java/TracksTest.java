@@ -238,6 +238,10 @@ public final class TracksTest {
         C.due("no number", x.item(0, 1), 0x7fc00000L);
         x.put(0, 1, 1000);
         C.due("no number there", x.item(1, 1), 0x7fc00000L);
+        x.putBits(1, 0, 0xffc00000L);
+        x.twin(3, 1);
+        C.due("no number at the first place", x.item(3, 0), 0x7fc00000L);
+        x.put(1, 0, 3000);
         C.due("twin(1, 2)", x.twin(1, 2), -6);
         C.due("it stays", x.item(1, 0), 0x40400000L);
         x.track(2, 1, 0);
