@@ -991,13 +991,10 @@ public final class UnitProver {
             if (nameLength == 0 || !tape.takes('=') || !readRatio(tape, ratio) || !readProduct(tape)) {
                 return false;
             }
-            if (tape.look(0) == '+' || tape.look(0) == '-') {
-                hasOffset = true;
-                offsetSign = tape.takes('+') ? 1 : -1;
-                tape.takes('-');
-                if (!readRatio(tape, offset)) {
-                    return false;
-                }
+            offsetSign = tape.look(0) == '-' ? -1 : 1;
+            hasOffset = tape.takes('+') || tape.takes('-');
+            if (hasOffset && !readRatio(tape, offset)) {
+                return false;
             }
             return tape.isAtEnd();
         }
