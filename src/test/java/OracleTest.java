@@ -404,7 +404,7 @@ public final class OracleTest {
 
     public static void main(String[] args) {
         Checks checks = new Checks("OracleTest");
-        int runs = args.length > 0 ? Integer.parseInt(args[0]) : 300;
+        int runs = args.length > 0 ? Integer.parseInt(args[0]) : 2000;
         OracleTest test = new OracleTest(checks);
         for (int i = 0; i < runs; i++) {
             test.run(i, 150);
