@@ -3,6 +3,7 @@ final class Checks {
     static final long NO = Long.MIN_VALUE;
 
     private final String of;
+    private String words = "";
     private int asked = 0;
     private int wrong = 0;
 
@@ -10,12 +11,22 @@ final class Checks {
         this.of = of;
     }
 
+    /** The words of DOC.md that the answers from here on are for; Quotes lists the words that no test says. */
+    void says(String quote) {
+        words = quote;
+    }
+
     void due(String call, long got, long want) {
         asked++;
         if (got != want) {
             wrong++;
-            System.out.println(of + ": " + call + " answered " + got + ", due is " + want);
+            String why = words.isEmpty() ? "" : " [" + words + "]";
+            System.out.println(of + ": " + call + " answered " + got + ", due is " + want + why);
         }
+    }
+
+    void no(String call, long got) {
+        due(call, got, NO);
     }
 
     void close() {
@@ -57,6 +68,45 @@ final class Checks {
         define(x, "f=5/9k+45967/180");
         define(x, "n=1000g*m/s2");
         return x;
+    }
+
+    /** A DEFINITION on a new stocked prover, which has one UNIT more or just as many behind it. */
+    void defines(String text, int want) {
+        UnitProver x = stocked();
+        defined(x, text, want);
+        due("count(0) behind " + text, x.count(0), want >= 0 ? 13 : 12);
+        due("count(2) behind " + text, x.count(2), 0);
+    }
+
+    /** The FAULT of a DEFINITION. */
+    void definesNot(String text, int fault) {
+        defines(text, -100 - fault);
+    }
+
+    /** A FORMULA on a new stocked prover: HELD, with so many STEPS. */
+    void proves(String text, int steps) {
+        judges(text, steps, 1);
+    }
+
+    /** A FORMULA on a new stocked prover, and by what it is WRONG. */
+    void judges(String text, int steps, int verdict) {
+        judged(stocked(), text, steps, verdict);
+    }
+
+    /** The FAULT of a FORMULA on a new stocked prover, which has no PROOF behind it. */
+    void provesNot(String text, int fault) {
+        UnitProver x = stocked();
+        proved(x, text, -100 - fault);
+        due("proof(0) behind " + text, x.proof(0), UnitProver.STATE);
+        due("count(2) behind " + text, x.count(2), 0);
+    }
+
+    /** VALUE of the last STEP of a FORMULA on a prover. */
+    void worth(UnitProver x, String text, long above, long below) {
+        prove(x, text);
+        int last = x.count(3) - 1;
+        due("proof(0) of " + text, x.proof(0), 1);
+        pair("VALUE of " + text, x.value(last, 0), x.value(last, 1), above, below);
     }
 
     void defined(UnitProver x, String text, int want) {
