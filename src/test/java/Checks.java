@@ -25,6 +25,11 @@ final class Checks {
         }
     }
 
+    /** How many answers have been due so far. */
+    int asked() {
+        return asked;
+    }
+
     void no(String call, long got) {
         due(call, got, NO);
     }

@@ -8,16 +8,36 @@ public final class FaultsTest {
         "5yd2ft3in4cm", "5yd2ft3.125in4cm+1", "123456m123456g123456s123456k", "((((1))))", "(1+2)*(3-m/s2)=4", "1=((((m))))", "1+2*3/4-5=6", "m=m",
         "(((m)*2)+(5m2))", "1abcd4+2"};
     private static final String SIGNS = "mz0125.()+-*/=A~";
+    private static final String[] STOCK = {"cm=1/100m", "in=254/100cm", "ft=12in", "yd=3ft", "c=1k+27315/100", "f=5/9k+45967/180", "n=1000g*m/s2"};
+    private static final int MOST_CALLS = 500;
 
     private final Checks checks;
     private UnitProver x;
     private Oracle o;
+    private int calls;
 
     private FaultsTest(Checks checks) {
         this.checks = checks;
     }
 
+    /** Objects anew, since what an object answers behind 512 calls is free. */
+    private void begin() {
+        x = Checks.stocked();
+        o = new Oracle();
+        for (String text : STOCK) {
+            for (char c : text.toCharArray()) {
+                o.feed(c);
+            }
+            o.define();
+        }
+        calls = 100;
+    }
+
     private void ask(String text, boolean formula) {
+        if (calls + text.length() > MOST_CALLS) {
+            begin();
+        }
+        calls += text.length() + 3;
         for (int i = 0; i < text.length(); i++) {
             x.feed(text.charAt(i));
             o.feed(text.charAt(i));
@@ -53,14 +73,7 @@ public final class FaultsTest {
     public static void main(String[] args) {
         Checks checks = new Checks("FaultsTest");
         FaultsTest test = new FaultsTest(checks);
-        test.x = Checks.stocked();
-        test.o = new Oracle();
-        for (String text : new String[] {"cm=1/100m", "in=254/100cm", "ft=12in", "yd=3ft", "c=1k+27315/100", "f=5/9k+45967/180", "n=1000g*m/s2"}) {
-            for (char c : text.toCharArray()) {
-                test.o.feed(c);
-            }
-            test.o.define();
-        }
+        test.begin();
         checks.due("the Oracle's stock", Oracle.fault("x=1m+-1", Set.of("name 0"), false), 5);
         test.askAll(DEFINITIONS, false);
         test.askAll(FORMULAS, true);

@@ -26,9 +26,12 @@ public final class ProofsTest {
             6, 2, 2, 5, 0, 2, 1, 1, 2, 2, 3, 4, 5, 3,
             1, 3, 3, 1, -1, 4, 10, 3, 2, 0, 3, 4, 2, 2, 2, 2, 2, 2, 2, 2, 2};
         for (int i = 0; i < texts.length; i++) {
+            // anew each time: what an object answers behind 512 calls is free
+            x = Checks.stocked();
             C.proved(x, texts[i], faults[i] < 0 ? 1 : -100 - faults[i]);
             C.due("THE TAPE is empty", x.count(2), 0);
         }
+        x = Checks.stocked();
         C.proved(x, "1=((((1))))", 3);
         C.proved(x, "1=(((((1", -106);
         C.proved(x, "((((1=", -105);
@@ -200,6 +203,7 @@ public final class ProofsTest {
         C.due("POWER -18", x.step(4, 1), 82);
         C.judged(x, "s/w/w/m", 6, -12);
         C.judged(x, "w2/m*m", 5, 1);
+        x = Checks.stocked();
         C.judged(x, "999999*999999*999999", 5, 1);
         C.judged(x, "999999*999999*999999*9", 7, 1);
         C.judged(x, "999999*999999*999999*10", 6, -15);

@@ -128,18 +128,30 @@ public final class StateTest {
         }
         C.due("feed() of a full TAPE", y.feed('m'), -4);
         C.due("count(2)", y.count(2), 60);
-        UnitProver z = Checks.stocked();
-        for (int i = 12; i < 20; i++) {
-            Checks.define(z, "z" + (char) ('a' + i) + "=1m");
-        }
-        List<Long> before = Fingerprint.of(z);
+        UnitProver z = twenty();
         C.defined(z, "z=1m", -4);
-        C.due("FULL leaves all as it was", Fingerprint.of(z).equals(before) ? 1 : 0, 1);
+        C.due("FULL leaves all as it was", Fingerprint.of(z).equals(Fingerprint.of(twenty())) ? 1 : 0, 1);
         UnitProver five = new UnitProver();
-        before = Fingerprint.of(five);
+        List<Long> before = Fingerprint.of(new UnitProver());
         C.due("drop() of five", five.drop(), -3);
         C.due("undo() without IMAGE", five.undo(), -3);
         C.due("they leave all as it was", Fingerprint.of(five).equals(before) ? 1 : 0, 1);
+    }
+
+    private static UnitProver twenty() {
+        UnitProver x = new UnitProver();
+        for (int i = 5; i < 20; i++) {
+            Checks.define(x, "z" + (char) ('a' + i) + "=1m");
+        }
+        return x;
+    }
+
+    private static UnitProver sixteen() {
+        UnitProver x = new UnitProver();
+        for (int i = 0; i < 16; i++) {
+            x.claim(0, 1 + i % 4, 1, 1 + i);
+        }
+        return x;
     }
 
     private static void refusedClaims() {
@@ -153,13 +165,9 @@ public final class StateTest {
         leaves("claimOf()", -1, x -> x.claimOf(0, 6));
         leaves("rings()", -1, x -> x.rings(4));
         leaves("by()", Checks.NO, x -> x.by(0, 1, 0));
-        UnitProver full = new UnitProver();
-        for (int i = 0; i < 16; i++) {
-            full.claim(0, 1 + i % 4, 1, 1 + i);
-        }
-        List<Long> before = Fingerprint.of(full);
+        UnitProver full = sixteen();
         C.due("claim()", full.claim(0, 1, 1, 1), -4);
-        C.due("FULL leaves all as it was", Fingerprint.of(full).equals(before) ? 1 : 0, 1);
+        C.due("FULL leaves all as it was", Fingerprint.of(full).equals(Fingerprint.of(sixteen())) ? 1 : 0, 1);
     }
 
     private static void refusedTracks() {

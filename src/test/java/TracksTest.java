@@ -99,6 +99,11 @@ public final class TracksTest {
         C.due("all 0", x.item(1, 0), 0);
         long seed = 99;
         for (int i = 0; i < 20000; i++) {
+            if (i % 100 == 0) {
+                x = new UnitProver();
+                x.track(0, 0, 1);
+                x.track(1, 1, 1);
+            }
             seed = seed * 6364136223846793005L + 1442695040888963407L;
             long bits = seed ^ seed >>> 29;
             x.putBits(1, 0, bits);
