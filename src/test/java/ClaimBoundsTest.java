@@ -211,6 +211,15 @@ public final class ClaimBoundsTest {
             sum += truths[i];
             C.due("rings(2)", x.rings(2), sum);
         }
+        UnitProver y = Checks.stocked();
+        for (int i = 1; i <= 16; i++) {
+            claims(y, 7, 6, 12 * i, i);
+            C.due("rings(2) of " + i, y.rings(2), i);
+        }
+        for (int i = 15; i >= 0; i--) {
+            C.due("unclaim(" + i + ")", y.unclaim(i), i);
+            C.due("rings(2) without the last one", y.rings(2), i);
+        }
     }
 
     private static void overOfTrue() {
@@ -417,6 +426,7 @@ public final class ClaimBoundsTest {
         C.due("999999 by 999999", x.nearest(0, 999999, 999999), 0);
         C.due("NOT: none", x.nearest(5, 99, 100), -5);
         unevenFactors();
+        nearestOfNoMore();
         C.due("NOT: none", x.nearest(11, 999998, 999999), -5);
         UnitProver y = new UnitProver();
         Checks.define(y, "b=999999m");
@@ -426,6 +436,19 @@ public final class ClaimBoundsTest {
         C.due("near to it", y.nearest(7, 9, 1), 7);
         C.due("NOT: OVER", y.nearest(7, 10, 1), -5);
         C.due("reduced first", y.nearest(8, 14, 1), 7);
+    }
+
+    private static void nearestOfNoMore() {
+        UnitProver x = Checks.stocked();
+        x.image();
+        C.defined(x, "twy=2yd", 12);
+        C.due("nearest(8, 2, 1)", x.nearest(8, 2, 1), 12);
+        C.due("drop()", x.drop(), 12);
+        C.due("without it", x.nearest(8, 2, 1), 0);
+        C.defined(x, "thy=3yd", 12);
+        C.due("nearest(8, 3, 1)", x.nearest(8, 3, 1), 12);
+        C.due("undo()", x.undo(), 12);
+        C.due("without it", x.nearest(8, 3, 1), 0);
     }
 
     /** FACTORS whose whole parts are the same, and some that lie nearer than longs' products could tell. */
