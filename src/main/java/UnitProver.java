@@ -1692,6 +1692,8 @@ public final class UnitProver {
         static final int FLOAT_FIGURES = 23;
         static final int FLOAT_BIAS = 127;
         static final int TWOS = 10;
+        static final long DOUBLE_SIGN = 1L << 63;
+        static final long FLOAT_SIGN = 1L << 31;
 
         /** 2, 4, 16 and so on, each the one ahead by itself. */
         final double[] twos = new double[TWOS];
@@ -1711,12 +1713,11 @@ public final class UnitProver {
         }
 
         long ofDouble(double number) {
-            return magnitude(number, DOUBLE_FIGURES, DOUBLE_BIAS) | (isNegative(number) ? Long.MIN_VALUE : 0);
+            return magnitude(number, DOUBLE_FIGURES, DOUBLE_BIAS) | (isNegative(number) ? DOUBLE_SIGN : 0);
         }
 
         long ofFloat(float number) {
-            long bits = magnitude(number, FLOAT_FIGURES, FLOAT_BIAS);
-            return isNegative(number) ? (int) bits | Integer.MIN_VALUE : (int) bits;
+            return (int) (magnitude(number, FLOAT_FIGURES, FLOAT_BIAS) | (isNegative(number) ? FLOAT_SIGN : 0));
         }
 
         boolean isNoDouble(long bits) {
@@ -1734,7 +1735,7 @@ public final class UnitProver {
 
         double toFloat(long bits) {
             double size = fromBits(bits, FLOAT_FIGURES, FLOAT_BIAS);
-            return (bits & 0x80000000L) != 0 ? -size : size;
+            return (bits & FLOAT_SIGN) != 0 ? -size : size;
         }
 
         /** The 0 below 0 is told from the other one only by what it divides. */

@@ -8,8 +8,9 @@ public final class SourceTest {
     private static final String[] FORBIDDEN = {"\\btry\\b", "\\bcatch\\b", "\\bthrow\\b", "\\bfinally\\b", "\\bsynchronized\\b",
         "\\bassert\\b", "\\bimport\\b", "\\bpackage\\b", "->", "::", "\\bvar\\b", "\\bObject\\b", "\\bDouble\\b", "\\bFloat\\b",
         "Exact\\b", "\\bhashCode\\b", "\\btoString\\b", "\\binstanceof\\b", "\\bnull\\s*\\)\\s*\\{\\s*\\}", "\\bstatic\\s*\\{"};
-    private static final String[] LIBRARY = {"Math.floorDiv", "Math.abs", "Math.min", "Long.compare", "Long.MIN_VALUE",
-        "Integer.MIN_VALUE", "System.arraycopy"};
+    private static final String[] LIBRARY = {"Math.floorDiv", "Math.abs", "Math.min", "Long.compare", "System.arraycopy"};
+    /** The face's own words: of Long and Integer the rules list functions alone. */
+    private static final String NO = "public static final long NO = Long.MIN_VALUE;";
     private static final int MOST_LINES = 60;
     private static final int MOST_CLASSES = 12;
     private static final int MOST_FIELDS = 20;
@@ -51,7 +52,8 @@ public final class SourceTest {
         for (String pattern : FORBIDDEN) {
             c.due(pattern, occurrences(pattern, code), 0);
         }
-        String rest = code;
+        c.due("NO as the document has it", occurrences(Pattern.quote(NO), code), 1);
+        String rest = code.replace(NO, "");
         for (String known : LIBRARY) {
             rest = rest.replace(known, "");
         }
